@@ -197,7 +197,7 @@ public final class SpiteField {
     }
 
     public int open(int person, int season) {
-        return isPersonIn(person, season) ? seasonAt(season).hatedOpenly(person) : NO_SUCH;
+        return isPersonIn(person, season) ? seasonAt(season).shown[person] : NO_SUCH;
     }
 
     public int haters(int kind, int season) {
@@ -207,7 +207,7 @@ public final class SpiteField {
         Season now = seasonAt(season);
         int set = 0;
         for (int p = 0; p < land.persons; p++) {
-            if (holds(now.hatedOpenly(p), kind)) {
+            if (holds(now.shown[p], kind)) {
                 set |= 1 << p;
             }
         }
@@ -413,7 +413,7 @@ public final class SpiteField {
         int found = NONE;
         int most = -1;
         for (int p = 0; p < land.persons; p++) {
-            int hated = Integer.bitCount(now.hatedOpenly(p));
+            int hated = Integer.bitCount(now.shown[p]);
             if (hated > most) {
                 most = hated;
                 found = p;
@@ -428,7 +428,7 @@ public final class SpiteField {
         }
         int set = 0;
         for (int p = 0; p < land.persons; p++) {
-            if (seasonAt(season).hatedOpenly(p) == 0) {
+            if (seasonAt(season).shown[p] == 0) {
                 set |= 1 << p;
             }
         }
@@ -567,7 +567,7 @@ public final class SpiteField {
 
     private int leastLie(int person) {
         Season now = seasonAt(0);
-        int hated = now.hatedOpenly(person);
+        int hated = now.shown[person];
         for (int k = 0; k < land.kinds; k++) {
             if (holds(hated, k) && ifHid(person, 1 << k).shareOf(person) > now.shareOf(person)) {
                 return k;
@@ -580,7 +580,7 @@ public final class SpiteField {
         if (!isPerson(person)) {
             return NO_SUCH;
         }
-        int hated = seasonAt(0).hatedOpenly(person);
+        int hated = seasonAt(0).shown[person];
         int most = seasonAt(0).shareOf(person);
         int found = 0;
         for (int set = 1; set <= hated; set++) {
@@ -1002,7 +1002,7 @@ public final class SpiteField {
         int most = 0;
         for (int k = 0; k < MOST_KINDS; k++) {
             int liking = tastes[person * MOST_KINDS + k];
-            if (holds(set, k) && (found == NONE || liking > most)) {
+            if ((set >> k & 1) == 1 && (found == NONE || liking > most)) {
                 most = liking;
                 found = k;
             }
@@ -1288,6 +1288,7 @@ public final class SpiteField {
         final int[] tastes = new int[MOST_PERSONS * MOST_KINDS];
         final int[] row = new int[MOST_PERSONS];
         final int[] hid = new int[MOST_PERSONS];
+        final int[] shown = new int[MOST_PERSONS];
         final int[] decider = new int[MOST_PERSONS];
         final int[] grown = new int[MOST_PERSONS];
         final int[] stench = new int[MOST_PERSONS];
@@ -1345,11 +1346,14 @@ public final class SpiteField {
         }
 
         void settle() {
+            for (int p = 0; p < persons; p++) {
+                shown[p] = hated(p) & ~hid[p];
+                stench[p] = 0;
+            }
             for (int plot = 0; plot < persons; plot++) {
                 int person = row[plot];
                 decider[person] = deciderAt(row, persons, plot, law);
                 grown[person] = grownUnder(person, decider[person]);
-                stench[person] = 0;
             }
             for (int p = 0; p < persons; p++) {
                 if (decider[p] != NONE) {
@@ -1365,7 +1369,7 @@ public final class SpiteField {
 
         int allowedBy(int who) {
             if (who != NONE) {
-                return hatedOpenly(who);
+                return shown[who];
             }
             return law == LAW_ALL ? (1 << kinds) - 1 : 0;
         }
@@ -1383,21 +1387,17 @@ public final class SpiteField {
         int hated(int person) {
             int set = 0;
             for (int k = 0; k < kinds; k++) {
-                if (tasteOf(person, k) < 0) {
+                if (tastes[person * MOST_KINDS + k] < 0) {
                     set |= 1 << k;
                 }
             }
             return set;
         }
 
-        int hatedOpenly(int person) {
-            return hated(person) & ~hid[person];
-        }
-
         int loved(int person) {
             int set = 0;
             for (int k = 0; k < kinds; k++) {
-                if (tasteOf(person, k) > 0) {
+                if (tastes[person * MOST_KINDS + k] > 0) {
                     set |= 1 << k;
                 }
             }
@@ -1464,6 +1464,8 @@ public final class SpiteField {
         private final int[] row = new int[MOST_PERSONS];
         private int persons = 0;
         private int law = 0;
+        private int sum = 0;
+        private int bares = 0;
 
         void weigh(Season now) {
             persons = now.persons;
@@ -1493,8 +1495,7 @@ public final class SpiteField {
         }
 
         private void weighRow(boolean isFirst) {
-            int sum = sumOver(worthOf, persons);
-            int bare = sumOver(bareOf, persons);
+            sumUp(persons);
             if (isFirst || sum > best) {
                 best = sum;
                 ways = 0;
@@ -1503,19 +1504,20 @@ public final class SpiteField {
             if (sum == best) {
                 ways++;
             }
-            fewest = isFirst ? bare : Math.min(fewest, bare);
-            if (bare == 0) {
+            fewest = isFirst ? bares : Math.min(fewest, bares);
+            if (bares == 0) {
                 full++;
             }
         }
 
-        private int sumOver(int[] numbers, int length) {
-            int sum = 0;
+        private void sumUp(int length) {
+            sum = 0;
+            bares = 0;
             for (int plot = 0; plot < length; plot++) {
-                int who = deciderAt(row, length, plot, law);
-                sum += numbers[row[plot] * COLUMNS + who + 1];
+                int at = row[plot] * COLUMNS + deciderAt(row, length, plot, law) + 1;
+                sum += worthOf[at];
+                bares += bareOf[at];
             }
-            return sum;
         }
 
         /** Makes the row the next greater one; false, if it is the greatest. */
@@ -1557,7 +1559,8 @@ public final class SpiteField {
                         stayed++;
                     }
                 }
-                if (Integer.bitCount(gone) < Integer.bitCount(found) && sumOver(bareOf, stayed) == 0) {
+                sumUp(stayed);
+                if (bares == 0 && Integer.bitCount(gone) < Integer.bitCount(found)) {
                     found = gone;
                 }
             }
@@ -1571,13 +1574,14 @@ public final class SpiteField {
         private final int[] answers = new int[MOST_PERSONS * MOST_SETS];
         private final boolean[] fits = new boolean[MOST_SETS];
         private final int[] tally = new int[MOST_KINDS + 1];
-        private final int[] marks = new int[MOST_SETS];
         private int persons = 0;
+        private int kinds = 0;
         private int sets = 0;
 
         void lay(Land land) {
             persons = land.persons;
-            sets = 1 << land.kinds;
+            kinds = land.kinds;
+            sets = 1 << kinds;
             for (int p = 0; p < persons; p++) {
                 for (int set = 0; set < sets; set++) {
                     answers[p * MOST_SETS + set] = favourite(land.told, p, set);
@@ -1649,32 +1653,29 @@ public final class SpiteField {
             return found;
         }
 
+        /**
+         * The set of all KINDS is told from the one without a KIND only by those who would GROW that KIND of all; and
+         * these GROW it of each set that has it. So one for each KIND is wanted, and enough: the first one.
+         */
         int fewestJudges() {
-            int found = NONE;
-            for (int asked = 0; asked < 1 << persons; asked++) {
-                boolean fewer = found == NONE || Integer.bitCount(asked) < Integer.bitCount(found);
-                if (fewer && tellApart(asked)) {
-                    found = asked;
+            int found = 0;
+            for (int kind = 0; kind < kinds; kind++) {
+                int judge = firstWith(kind);
+                if (judge == NONE) {
+                    return NONE;
                 }
+                found |= 1 << judge;
             }
             return found;
         }
 
-        private boolean tellApart(int asked) {
-            for (int set = 0; set < sets; set++) {
-                marks[set] = 0;
-                for (int p = 0; p < persons; p++) {
-                    if (holds(asked, p)) {
-                        marks[set] = marks[set] * (MOST_KINDS + 1) + answers[p * MOST_SETS + set] + 1;
-                    }
-                }
-                for (int other = 0; other < set; other++) {
-                    if (marks[other] == marks[set]) {
-                        return false;
-                    }
+        private int firstWith(int kind) {
+            for (int p = 0; p < persons; p++) {
+                if (answers[p * MOST_SETS + sets - 1] == kind) {
+                    return p;
                 }
             }
-            return true;
+            return NONE;
         }
     }
 
@@ -1691,7 +1692,7 @@ public final class SpiteField {
             int who = now.decider[person];
             int parts = now.law == LAW_ALL && who == NONE ? 0 : PARTS;
             if (who != NONE) {
-                int hates = Integer.bitCount(now.hatedOpenly(who));
+                int hates = Integer.bitCount(now.shown[who]);
                 for (int i = 0; i < hates; i++) {
                     parts = parts / CERTAIN * odds;
                 }
@@ -1720,7 +1721,7 @@ public final class SpiteField {
             long x = seed;
             int lost = 0;
             for (int p = 0; p < now.persons; p++) {
-                int hated = now.hatedOpenly(p);
+                int hated = now.shown[p];
                 for (int k = 0; k < now.kinds; k++) {
                     if (holds(hated, k)) {
                         x = 1103515245L * x + 12345L & 0x7fffffffL;

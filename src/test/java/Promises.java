@@ -80,6 +80,8 @@ public final class Promises {
         rows();
         emptyField();
         alone();
+        sixPeople();
+        readme();
         System.out.println("Promises: " + passed + " passed, " + failed + " failed");
         System.exit(failed == 0 ? 0 : 1);
     }
@@ -165,6 +167,18 @@ public final class Promises {
         due("another one", x.field(), 4);
         due("no acts", x.count(5), 0);
         due("no fault", x.fault(0), 0);
+        due("may of this one", x.may(0, 0), 5);
+        due("best of this one", x.best(), 6);
+        tape(x, "field kinds 3 law 0 fades 0 odds 0;person;person hates 1 1;");
+        due("another one", x.field(), 3);
+        due("its own tastes alone", x.taste(0, 0), 0);
+        due("may of that one", x.may(0, 0), 2);
+        due("best of that one", x.best(), 0);
+        tape(x, "");
+        due("an empty text", x.field(), 0);
+        for (int what = 0; what < 8; what++) {
+            due("nothing is left " + what, x.count(what), 0);
+        }
         tape(x, "field kinds 1 law 0 fades 0 odds 0;person;person;person;person;person;person;");
         due("six", x.field(), 7);
         due("persons", x.count(4), 6);
@@ -200,6 +214,11 @@ public final class Promises {
         fault(";", 1, 0);
         fault("7", 1, 0);
         fault("fieldkinds 3", 1, 0);
+        fault("fieldz", 1, 0);
+        fault("za", 1, 0);
+        fault("field kinds 3 law 0 fades 0 odds 0 0", 1, 35);
+        fault("field kinds 3 law 0 fades 0 odds 0 ; ; ", 1, 37);
+        fault("field kinds 3,", 1, 13);
         fault("field law 3", 1, 6);
         fault("field 3", 1, 6);
         fault("field kinds law", 1, 12);
@@ -320,6 +339,9 @@ public final class Promises {
             due("may in -1", x.may(0, -1), -2);
             promise = "15";
             due("grows 2 by law " + law, x.grows(2, 0), new int[] {NONE, 2, 1, 2}[law]);
+            promise = "13";
+            SpiteField two = on("field kinds 1 law " + law + " fades 0 odds 0;person hates 0 1;person;");
+            due("two, by law " + law, two.decides(1, 0), new int[] {NONE, NONE, 0, 0}[law]);
             promise = "19";
             due("has 0 by law " + law, x.has(0, 0), new int[] {4, 4, 2, 4}[law]);
             due("has 1 by law " + law, x.has(1, 0), new int[] {-3, -3, -3, -4}[law]);
@@ -436,6 +458,7 @@ public final class Promises {
         due("cools 1 2", x.cools(1, 2), 1);
         due("cools 2 1", x.cools(2, 1), 4);
         due("cools 0 0", x.cools(0, 0), NONE);
+        due("no hate", x.cools(1, 1), NONE);
         due("cools 3 0", x.cools(3, 0), -2);
         due("cools 0 3", x.cools(0, 3), -2);
         due("in none", on(THREE.replace("fades 1", "fades 0")).cools(0, 1), NONE);
@@ -452,6 +475,7 @@ public final class Promises {
         due("lasts 2", x.lasts(2), 12);
         due("lasts 3", x.lasts(3), -2);
         due("lasts -1", x.lasts(-1), -2);
+        due("in 0 alone", on("field kinds 1 law 0 fades 1 odds 0;person;person hates 0 1;").lasts(0), 0);
         due("in none", on("field kinds 2 law 0 fades 0 odds 0;person;").lasts(0), NONE);
         promise = "31";
         due("lean", x.lean(), 0);
@@ -461,6 +485,19 @@ public final class Promises {
         due("change 1", x.change(1), 4);
         due("change 2", x.change(2), NONE);
         due("change 3", x.change(3), -2);
+        SpiteField y = on("field kinds 1 law 0 fades 1 odds 0;person;person hates 0 1;");
+        due("change in 1", y.change(0), 1);
+        y.hide(1, 0, 0, 1);
+        due("bare for ever", y.change(0), NONE);
+        SpiteField z = on("field kinds 1 law 0 fades 0 odds 0;person;person hates 0 1;");
+        z.hide(1, 0, 0, 1);
+        z.hide(1, 0, 7, 0);
+        due("bare until 7", z.change(0), 7);
+        promise = "31";
+        SpiteField w = on("field kinds 1 law 0 fades 0 odds 0;person loves 0 1;person hates 0 9;");
+        w.hide(1, 0, 0, 1);
+        w.hide(1, 0, 1, 0);
+        due("lean in 1", w.lean(), 1);
     }
 
     private static void people() {
@@ -504,6 +541,15 @@ public final class Promises {
         due("the first of several", x.match(1), 0);
         due("match 2", x.match(2), 1);
         due("match 3", x.match(3), -2);
+        SpiteField m = on("field kinds 3 law 0 fades 0 odds 0;person hates 0 2 loves 1 3 loves 2 1;person hates 0 1;"
+            + "person hates 1 1;person hates 2 1;");
+        due("the one between", m.match(0), 2);
+        due("bare is better than a hate", on("field kinds 1 law 0 fades 0 odds 0;person hates 0 1;person hates 0 1;"
+            + "person;").match(0), 2);
+        m.hide(2, 1, 1, 1);
+        due("hid later on", m.match(0), 2);
+        m.hide(2, 1, 0, 1);
+        due("hid", m.match(0), 3);
         due("no other one", on("field kinds 1 law 0 fades 0 odds 0;person;").match(0), NONE);
         promise = "38";
         due("stay 0", x.stay(0), 0);
@@ -517,6 +563,9 @@ public final class Promises {
         due("stay by acts", x.stay(0), 0);
         SpiteField y = on("field kinds 1 law 1 fades 0 odds 0;person loves 0 5;person;");
         due("stay on the last", y.stay(0), 1);
+        y.swap(0, 1, 1);
+        due("changed later on", y.stay(0), 1);
+        due("the least of several", on("field kinds 1 law 0 fades 0 odds 0;person;person;").stay(1), 0);
     }
 
     private static void orders() {
@@ -552,6 +601,10 @@ public final class Promises {
         due("clear, hid, row 1 0 2", x.clear(), 0);
         x.swap(0, 1, 0);
         due("clear, hid, row 0 1 2", x.clear(), 1);
+        x.swap(0, 1, 1);
+        due("changed later on", x.clear(), 1);
+        promise = "44";
+        due("changed later on", x.full(), 2);
         SpiteField y = on("field kinds 1 law 0 fades 0 odds 0;person;person;");
         promise = "42";
         due("all ways", y.ways(), 2);
@@ -611,6 +664,14 @@ public final class Promises {
         SpiteField x = on(THREE);
         promise = "39";
         due("treaties", x.treaties(), 1);
+        // P1 hides: P0 is bare; P2 hides: P1 is bare. The price is 2, what is saved 2: no more.
+        SpiteField even = on("field kinds 1 law 0 fades 0 odds 0;person;person hates 0 2;person hates 0 2;");
+        due("no more by it", even.treaties(), 0);
+        SpiteField one = on("field kinds 1 law 0 fades 0 odds 0;person;person hates 0 3;person hates 0 2;");
+        // P1 grows his own hate: -3, and smells P0's: -6; both hid: 0 - 2.
+        due("one alone gets more", one.treaties(), 0);
+        SpiteField both = on("field kinds 1 law 0 fades 0 odds 0;person;person hates 0 3;person hates 0 3;person hates 0 3;");
+        due("all three pairs", both.treaties(), 3);
         promise = "49";
         due("rests 1 2", x.rests(1, 2), 8);
         due("rests 0 1", x.rests(0, 1), 4);
@@ -621,6 +682,7 @@ public final class Promises {
         due("both as now", on("field kinds 1 law 0 fades 0 odds 0;person;person;").rests(0, 1), 1);
         SpiteField y = on("field kinds 1 law 0 fades 0 odds 0;person;person hates 0 2;");
         due("alike by both", y.rests(0, 1), 5);
+        due("alike by both", y.rests(1, 0), 3);
         promise = "50";
         due("gets 1 2 0 0", x.gets(1, 2, 0, 0), -3);
         due("gets 1 2 1 0", x.gets(1, 2, 1, 0), -2);
@@ -655,6 +717,9 @@ public final class Promises {
         due("learn 3", x.learn(3), -2);
         SpiteField y = on("field kinds 3 law 0 fades 0 odds 0;person loves 1 3 loves 2 3;person;");
         due("the least of several", y.learn(1), 1);
+        // By 1: P0 grows 0 (1), P1 smells 1: no more than now.
+        due("by 1, no more", on("field kinds 1 law 0 fades 0 odds 0;person loves 0 1;person;").learn(1), NONE);
+        due("by 1, more", on("field kinds 1 law 0 fades 0 odds 0;person loves 0 2;person;").learn(1), 0);
     }
 
     private static void trading() {
@@ -913,6 +978,11 @@ public final class Promises {
         promise = "67";
         due("undo", x.undo(), 4);
         due("open in 5 as before", x.open(1, 5), 0);
+        promise = "68";
+        due("anew", x.anew(), 4);
+        due("open in 5", x.open(1, 5), 5);
+        due("on 0 in 5", x.on(0, 5), 0);
+        due("best", x.best(), 6);
     }
 
     private static void draws() {
@@ -975,6 +1045,8 @@ public final class Promises {
         x.anew();
         due("rate", x.rate(0), 3);
         due("likes", x.likes(2, 1, 12), -4);
+        due("rate", x.rate(2), 0);
+        due("likes", x.likes(2, 1, 1), -2);
     }
 
     private static void counts() {
@@ -1019,8 +1091,19 @@ public final class Promises {
         due("best", x.best(), on0());
         x.undo();
         x.undo();
+        x.hide(2, 1, 4, 0);
+        x.swap(1, 1, 9);
         due("back again", x.back(0), 0);
         due("acts", x.count(5), 2);
+        due("on 0", x.on(0, 0), 2);
+        due("on 2", x.on(2, 0), 0);
+        due("open", x.open(1, 0), 4);
+        due("undo", x.undo(), 1);
+        due("open", x.open(1, 0), 5);
+        due("on 0", x.on(0, 0), 2);
+        due("undo", x.undo(), 0);
+        due("on 0", x.on(0, 0), 0);
+        due("back once more", x.back(0), 0);
         due("back 2", x.back(2), 0);
         due("persons", x.count(4), 1);
         due("best", x.best(), 0);
@@ -1155,6 +1238,41 @@ public final class Promises {
         spoonsDue(x, 0, 8, 0, 0, NONE, 8);
         row(x, 0, 0, 0);
         spoonsDue(x, 0, -2, -2, -2, -2, -2);
+    }
+
+    private static void sixPeople() {
+        SpiteField x = on("field kinds 5 law 2 fades 0 odds 3;person hates 0 1 hates 1 2 hates 2 3 hates 3 4 hates 4 5;"
+            + "person hates 4 1 loves 0 2;person loves 3 9;person hates 2 2 hates 3 3;person loves 1 1 hates 0 9;"
+            + "person loves 4 4 hates 1 1;");
+        promise = "62";
+        due("the last, by the first", x.decides(5, 0), 0);
+        due("chance above", x.chance(5, 0), 243);
+        due("chance below", x.chance(5, 1), 100000);
+        due("saint ahead", x.chance(1, 0), 1);
+        promise = "63";
+        // 0 by 1 3/10, 1 by 2 1, 2 by 3 9/100, 3 by 4 3/10, 4 by 5 3/10, 5 by 0 243/100000.
+        due("mean above", x.mean(0), 199243);
+        due("mean below", x.mean(1), 100000);
+        promise = "64";
+        due("likely 5", x.likely(5), 4);
+        due("likely 1", x.likely(1), NONE);
+        promise = "61";
+        due("judges", x.judges(), NONE);
+    }
+
+    private static void readme() {
+        promise = "README";
+        SpiteField x = new SpiteField();
+        x.feed(0x6669656c, 0x64206b69, 0x6e647320, 0x32206c61, 0x77203120);
+        x.feed(0x66616465, 0x73203120, 0x6f646473, 0x20303b70, 0x6572736f);
+        x.feed(0x6e206c6f, 0x76657320, 0x3020333b, 0x70657273, 0x6f6e2068);
+        x.feed(0x61746573, 0x20302032, 0x3b000000, 0, 0);
+        due("end", x.end(69), 69);
+        due("field", x.field(), 3);
+        due("grows", x.grows(0, 0), 0);
+        due("has", x.has(1, 0), -2);
+        x.hide(1, 0, 0, 1);
+        due("grows", x.grows(0, 0), NONE);
     }
 
     private static void alone() {
