@@ -41,9 +41,7 @@ public final class SpiteField {
     private static final int SHOW_HATE = 1;
     private static final int HIDE_HATE = 2;
 
-    private final byte[] tape = new byte[MOST_BYTES];
-    private int tapeLength = 0;
-    private final Reader reader = new Reader(tape);
+    private final Reader reader = new Reader();
     private final Land draft = new Land();
     private final Land land = new Land();
     private final Land[] images = new Land[IMAGES];
@@ -72,38 +70,29 @@ public final class SpiteField {
     // ---- the text ----
 
     public int feed(int a, int b, int c, int d, int e) {
-        if (tapeLength > MOST_BYTES - FED_BYTES) {
+        if (reader.length > MOST_BYTES - FED_BYTES) {
             return NONE;
         }
-        putBytes(a);
-        putBytes(b);
-        putBytes(c);
-        putBytes(d);
-        putBytes(e);
-        return tapeLength;
-    }
-
-    private void putBytes(int number) {
-        for (int shift = 24; shift >= 0; shift -= 8) {
-            if (tapeLength < MOST_BYTES) {
-                tape[tapeLength] = (byte) (number >> shift);
-                tapeLength++;
-            }
-        }
+        reader.putBytes(a);
+        reader.putBytes(b);
+        reader.putBytes(c);
+        reader.putBytes(d);
+        reader.putBytes(e);
+        return reader.length;
     }
 
     public int end(int n) {
-        if (n < 0 || n > tapeLength) {
+        if (n < 0 || n > reader.length) {
             return NONE;
         }
-        tapeLength = n;
+        reader.length = n;
         return n;
     }
 
     public int field() {
-        boolean sound = reader.readInto(draft, tapeLength);
+        boolean sound = reader.readInto(draft);
         // The document's '(empty then)' is taken for a faulty text too; 'all stays' for the FIELD and its acts.
-        tapeLength = 0;
+        reader.length = 0;
         if (!sound) {
             return FAULTY;
         }
@@ -906,7 +895,7 @@ public final class SpiteField {
             case 6:
                 return land.lines;
             case 7:
-                return tapeLength;
+                return reader.length;
             case 8:
                 return slotsThere();
             default:
@@ -1094,7 +1083,7 @@ public final class SpiteField {
         }
     }
 
-    /** Reads a text into a FIELD, and keeps the first FAULT of the latest one. */
+    /** The TAPE; reads it into a FIELD, and keeps the first FAULT of the latest one. */
     private static final class Reader {
         private static final int END = 0;
         private static final int WORD = 1;
@@ -1110,20 +1099,24 @@ public final class SpiteField {
 
         int fault = 0;
         int place = NONE;
-        private final byte[] text;
-        private int length = 0;
+        int length = 0;
+        private final byte[] text = new byte[MOST_BYTES];
         private int behind = 0;
         private int start = 0;
         private int sort = END;
         private int number = 0;
         private int taken = 0;
 
-        Reader(byte[] text) {
-            this.text = text;
+        void putBytes(int number) {
+            for (int shift = 24; shift >= 0; shift -= 8) {
+                if (length < MOST_BYTES) {
+                    text[length] = (byte) (number >> shift);
+                    length++;
+                }
+            }
         }
 
-        boolean readInto(Land land, int textLength) {
-            length = Math.min(textLength, text.length);
+        boolean readInto(Land land) {
             behind = 0;
             fault = 0;
             place = NONE;

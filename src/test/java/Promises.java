@@ -1,54 +1,10 @@
 import java.math.BigInteger;
-import java.nio.charset.StandardCharsets;
 
 /** Worked by hand: for each promise calls whose answers the document gives. */
-public final class Promises {
-    private static int passed = 0;
-    private static int failed = 0;
-    private static String promise = "";
-
+public final class Promises extends Checks {
     /** P0 4 -2 0, P1 -3 0 -1, P2 0 -4 5; the last one may grow all. */
     static final String THREE = "field kinds 3 law 1 fades 1 odds 5;\nperson loves 0 4 hates 1 2;\n"
             + "person hates 0 3 hates 2 1;\nperson loves 2 5 hates 1 4;";
-
-    static final int NONE = SpiteField.NONE;
-
-    private static void due(String call, long got, long want) {
-        if (got == want) {
-            passed++;
-        } else {
-            failed++;
-            System.out.println("promise " + promise + ": " + call + " answered " + got + ", due is " + want);
-        }
-    }
-
-    static void tape(SpiteField x, String text) {
-        byte[] bytes = text.getBytes(StandardCharsets.ISO_8859_1);
-        int before = x.count(7);
-        for (int i = 0; i < bytes.length; i += 20) {
-            int[] n = new int[5];
-            for (int j = 0; j < 20; j++) {
-                int b = i + j < bytes.length ? bytes[i + j] & 255 : 0;
-                n[j / 4] = n[j / 4] << 8 | b;
-            }
-            x.feed(n[0], n[1], n[2], n[3], n[4]);
-        }
-        x.end(before + bytes.length);
-    }
-
-    static SpiteField on(String text) {
-        SpiteField x = new SpiteField();
-        tape(x, text);
-        x.field();
-        return x;
-    }
-
-    private static void row(SpiteField x, int slot, long... numbers) {
-        x.row(slot, 3, numbers.length);
-        for (int i = 0; i < numbers.length; i++) {
-            x.write(slot, i, numbers[i]);
-        }
-    }
 
     public static void main(String[] args) {
         newObject();
@@ -82,8 +38,7 @@ public final class Promises {
         alone();
         sixPeople();
         readme();
-        System.out.println("Promises: " + passed + " passed, " + failed + " failed");
-        System.exit(failed == 0 ? 0 : 1);
+        tell("Promises");
     }
 
     private static void newObject() {
@@ -182,15 +137,6 @@ public final class Promises {
         tape(x, "field kinds 1 law 0 fades 0 odds 0;person;person;person;person;person;person;");
         due("six", x.field(), 7);
         due("persons", x.count(4), 6);
-    }
-
-    private static void fault(String text, int what, int place) {
-        SpiteField x = new SpiteField();
-        tape(x, text);
-        due("field " + text, x.field(), -4);
-        due("fault(0) of " + text, x.fault(0), what);
-        due("fault(1) of " + text, x.fault(1), place);
-        due("no field " + text, x.count(6), 0);
     }
 
     private static void faults() {
@@ -777,19 +723,6 @@ public final class Promises {
         due("trades", t.trades(), 1);
         promise = "54";
         due("trade", t.trade(), 12);
-    }
-
-    private static void spoonsDue(SpiteField x, int slot, int... wanted) {
-        promise = "56";
-        due("spoons " + slot, x.spoons(slot), wanted[0]);
-        promise = "57";
-        due("surely " + slot, x.surely(slot), wanted[1]);
-        promise = "58";
-        due("never " + slot, x.never(slot), wanted[2]);
-        promise = "59";
-        due("ask " + slot, x.ask(slot), wanted[3]);
-        promise = "60";
-        due("leaves " + slot, x.leaves(slot), wanted[4]);
     }
 
     private static void spoons() {
