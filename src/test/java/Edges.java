@@ -14,7 +14,9 @@ public final class Edges extends Checks {
         people();
         blanksAndTokens();
         everyByte();
+        everyLetter();
         everyEnd();
+        cutEnds();
         firstFault();
         tapeFull();
         tapeCut();
@@ -200,6 +202,48 @@ public final class Edges extends Checks {
                 fault("field kinds 3" + text + "law 0 fades 0 odds 0;", digit ? 2 : 1, digit ? 12 : 13);
             }
         }
+    }
+
+    /** Each letter of each word changed, left out, or put twice. */
+    private static void everyLetter() {
+        promise = "I, 4, 5: 1 a TOKEN that can't stand there";
+        String text = "field kinds 2 law 1 fades 1 odds 5;person loves 0 1 hates 1 1;";
+        for (int i = 0; i < text.length(); i++) {
+            if (Character.isLetter(text.charAt(i))) {
+                int at = i;
+                while (at > 0 && Character.isLetter(text.charAt(at - 1))) {
+                    at--;
+                }
+                String left = text.substring(0, i);
+                String right = text.substring(i + 1);
+                fault(left + "q" + right, 1, at);
+                fault(left + text.charAt(i) + text.charAt(i) + right, 1, at);
+                fault(left + right, 1, at);
+            }
+        }
+    }
+
+    /** What stood behind the end is not read. */
+    private static void cutEnds() {
+        promise = "3, 5: its first n bytes alone";
+        String[] texts = {HEAD + "personx", "field kinds 55", "field kinds 2 law 1 fades 1 odds 10", HEAD + "person hates 11"};
+        for (String text : texts) {
+            SpiteField x = new SpiteField();
+            tape(x, text);
+            int n = text.length() - 1;
+            due("end", x.end(n), n);
+            due("cut " + text, x.field(), -4);
+            due("fault of " + text, x.fault(0), 1);
+            due("the end " + text, x.fault(1), n);
+        }
+        for (String last : new String[] {"field kinds 2 law", "field kinds 2 law 1", HEAD + "person hates 0 1", HEAD + "person"}) {
+            fault(" ".repeat(800 - last.length()) + last, 1, 800);
+        }
+        sound(" ".repeat(800 - HEAD.length()) + HEAD, 1);
+        sound(HEAD + "person;".repeat(6) + "\n".repeat(800 - HEAD.length() - 42), 7);
+        fault(" ".repeat(799) + "$", 1, 799);
+        fault(" ".repeat(799) + "7", 1, 799);
+        fault(" ".repeat(799) + "f", 1, 799);
     }
 
     /** A sound text cut at each length: a cut word is at its first byte, else the end is the place. */
@@ -458,6 +502,10 @@ public final class Edges extends Checks {
         due("lasts in none", on("field kinds 2 law 1 fades 0 odds 0;person loves 1 1;").lasts(0), NONE);
         due("foe of none", on(HEAD + "person;").foe(0), NONE);
         due("peace in 0", on(HEAD + "person loves 0 1;").peace(), 0);
+        due("peace of six in 0", on(HEAD + "person loves 0 1;".repeat(6)).peace(), 0);
+        due("the first one alone hates", on("field kinds 1 law 0 fades 1 odds 0;person hates 0 3;person;").peace(), 3);
+        due("the last one alone hates", on("field kinds 1 law 0 fades 1 odds 0;" + "person;".repeat(5)
+            + "person hates 0 3;").peace(), 3);
     }
 
     private static void nineAtMost() {
@@ -606,6 +654,9 @@ public final class Edges extends Checks {
         // On PLOT 0 and on PLOT 3 he has -2, between -4.
         due("stay 1", x.stay(1), 0);
         due("stay 3", x.stay(3), 0);
+        SpiteField low = on("field kinds 2 law 0 fades 0 odds 0;person hates 0 1 hates 1 5;person hates 1 1;person hates 1 1;");
+        // On PLOT 0 he GROWS 1 (-5), on 1 he smells 1 besides (-6), on 2 he is bare and smells 1.
+        due("all below 0", low.stay(0), 2);
         promise = "31: the first of several";
         due("lean", on(HEAD + "person;").lean(), 0);
         due("lean of even ones", on("field kinds 1 law 0 fades 0 odds 0;person;").lean(), 0);
@@ -643,6 +694,20 @@ public final class Edges extends Checks {
         y.undo();
         due("he alone", y.liars(), 2);
         due("two hid together are no LIE", x.liars(), 0);
+        SpiteField six = on("field kinds 1 law 2 fades 0 odds 0;" + "person hates 0 1;".repeat(6));
+        due("all six", six.liars(), 63);
+        due("the first one alone", on("field kinds 1 law 2 fades 0 odds 0;person hates 0 3;person;").liars(), 1);
+        due("the last one alone", on("field kinds 1 law 0 fades 0 odds 0;" + "person;".repeat(5) + "person hates 0 3;").liars(), 32);
+        promise = "V: hid besides in SEASON 0";
+        SpiteField z = on("field kinds 2 law 0 fades 0 odds 0;person loves 0 2;person hates 0 5 hates 1 3;");
+        z.hide(1, 0, 0, 1);
+        // 0 stays hid: with 1 hid besides P0 is bare. (0 open again he would smell 5.)
+        due("lie besides", z.lie(1), 1);
+        due("lies besides", z.lies(1), 2);
+        SpiteField w = on("field kinds 1 law 0 fades 3 odds 0;person;person hates 0 2;");
+        due("in SEASON 0, not in 1", w.lie(1), 0);
+        due("in SEASON 0, not in 1", w.lies(1), 1);
+        due("in SEASON 0, not in 1", w.liars(), 2);
     }
 
     private static void nobodyAndNone() {
@@ -767,6 +832,16 @@ public final class Edges extends Checks {
         }
         SpiteField y = on("field kinds 1 law 2 fades 0 odds 0;" + "person hates 0 3;".repeat(6));
         due("all 15 pairs", y.treaties(), 15);
+        SpiteField even = on("field kinds 1 law 0 fades 0 odds 0;person;person hates 0 2;person hates 0 3;");
+        even.swap(1, 2, 0);
+        // Row 0 2 1: P2 GROWS 0 and smells it, -6; P1 is bare and smells 2: hid he GETS -2, no more.
+        due("the lesser one gets no more", even.treaties(), 0);
+        due("the greater one does", even.gets(2, 1, 1, 1) - even.gets(2, 1, 0, 0), 4);
+        SpiteField five = on("field kinds 5 law 0 fades 0 odds 0;person loves 4 7;person hates 1 2 hates 4 3;");
+        due("by his last KIND", five.gets(0, 1, 0, 0), 7);
+        due("all KINDS hid", five.gets(0, 1, 0, 1), 0);
+        due("all KINDS hid", five.gets(1, 0, 1, 0), -2);
+        due("as now", five.gets(1, 0, 0, 0), -3);
         promise = "49: hid as now";
         y.hide(0, 0, 0, 1);
         due("hid already: he pays for nothing", y.gets(0, 1, 1, 0), y.gets(0, 1, 0, 0) - 2);
@@ -802,6 +877,7 @@ public final class Edges extends Checks {
         // Row 4 5 2 3 0 1: P4 GROWS 0 (0), P5 GROWS 1 by P2 and smells 4. Changed P5 is bare, P4 GROWS 1 (9).
         due("one alone", last.trades(), 1);
         due("the last pair", last.trade(), 45);
+        due("in SEASON 0, not in 1", on("field kinds 2 law 1 fades 3 odds 0;person loves 1 9;person hates 0 3;").trades(), 1);
         promise = "55: below 0, too";
         SpiteField lost = on("field kinds 1 law 1 fades 0 odds 0;person loves 0 9;person hates 0 1;");
         // Now 9 and -1 - 1; changed P1 is bare, P0 has 9.
