@@ -37,10 +37,10 @@ public final class Fuzz {
     }
 
     private String text() {
-        int kinds = 1 + chance.nextInt(5);
+        int kinds = chance.nextInt(4) == 0 ? 1 + chance.nextInt(5) : 3 + chance.nextInt(3);
         StringBuilder s = new StringBuilder("field kinds " + kinds + " law " + chance.nextInt(4) + " fades "
             + chance.nextInt(4) + " odds " + chance.nextInt(11) + (chance.nextBoolean() ? " ;\n" : ";"));
-        int persons = chance.nextInt(chance.nextInt(5) == 0 ? 8 : 6);
+        int persons = chance.nextInt(4) == 0 ? chance.nextInt(8) : 3 + chance.nextInt(4);
         for (int p = 0; p < persons; p++) {
             s.append(chance.nextInt(3) == 0 ? "person " : "person");
             int tastes = chance.nextInt(7);
@@ -139,7 +139,8 @@ public final class Fuzz {
         int eager = chance.nextInt(3) == 0 ? 4 : 25;
         while (calls < CALLS - 60) {
             int what = chance.nextInt(60);
-            if (what == 0 || calls == 0) {
+            boolean lost = field.count(6) == 0 && what < 12;
+            if (what == 0 || calls == 0 || lost) {
                 load(loaders[0], loaders[1], loaders[2], loaders[3]);
             } else {
                 Method m = chance.nextInt(eager) == 0 ? acts.get(chance.nextInt(acts.size()))
