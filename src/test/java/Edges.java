@@ -14,6 +14,7 @@ public final class Edges extends Checks {
         people();
         blanksAndTokens();
         everyByte();
+        everySign();
         everyLetter();
         everyEnd();
         cutEnds();
@@ -200,6 +201,26 @@ public final class Edges extends Checks {
                 fault(HEAD + text, 1, 35);
                 boolean digit = b >= '0' && b <= '9';
                 fault("field kinds 3" + text + "law 0 fades 0 odds 0;", digit ? 2 : 1, digit ? 12 : 13);
+            }
+        }
+    }
+
+    /** Each byte where a ; is due: behind a number, behind a word. */
+    private static void everySign() {
+        promise = "I, 4, 5: the sign ;";
+        String head = HEAD.substring(0, 34);
+        for (int b = 0; b < 256; b++) {
+            String sign = String.valueOf((char) b);
+            boolean blank = b == 32 || b == 10;
+            boolean digit = b >= '0' && b <= '9';
+            boolean letter = b >= 'a' && b <= 'z';
+            if (b == ';') {
+                sound(head + sign, 1);
+                sound(HEAD + "person" + sign, 2);
+            } else {
+                fault(head + sign, digit ? 2 : 1, digit ? 33 : blank ? 35 : 34);
+                fault(HEAD + "person" + sign, 1, letter ? 35 : blank ? 42 : 41);
+                fault(HEAD + "person hates 0 1" + sign, digit ? 2 : 1, digit ? 50 : blank ? 52 : 51);
             }
         }
     }
