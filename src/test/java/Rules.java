@@ -5,7 +5,10 @@ import java.lang.reflect.Method;
 import java.lang.reflect.Modifier;
 import java.nio.file.Files;
 import java.nio.file.Path;
+import java.util.HashMap;
 import java.util.HashSet;
+import java.util.List;
+import java.util.Map;
 import java.util.Set;
 import java.util.TreeSet;
 import java.util.regex.Matcher;
@@ -87,6 +90,7 @@ public final class Rules {
         }
         checkNewness(bare);
         checkLengths(source);
+        checkDepth(bare);
     }
 
     /** Rows are made with the object, never by a call: so no run can fill the room. */
@@ -114,6 +118,42 @@ public final class Rules {
                 start = -1;
             }
         }
+    }
+
+    /** Methods that share a name count as one, so that the depth told is never too small. */
+    private static void checkDepth(String bare) {
+        Map<String, Set<String>> calls = new HashMap<>();
+        String caller = null;
+        for (String line : bare.split("\n")) {
+            Matcher head = Pattern.compile("^(?: {4}| {8})[\\w\\[\\] ]* (\\w+)\\([^=;]*\\) \\{$").matcher(line);
+            boolean begins = head.find() && !line.matches("^ +(if|for|while|switch|else|return|\\})\\b.*");
+            if (begins) {
+                caller = head.group(1);
+                calls.computeIfAbsent(caller, name -> new TreeSet<>());
+            } else if (caller != null) {
+                Matcher call = Pattern.compile("(?<!new )\\b(\\w+)\\(").matcher(line);
+                while (call.find()) {
+                    calls.get(caller).add(call.group(1));
+                }
+            }
+        }
+        for (String name : FACE.split(" ")) {
+            check("11", calls.containsKey(name), name + " was not found in the source");
+            int deep = depth(name, calls, 1);
+            check("8, 11", deep <= 8, name + " goes " + deep + " calls deep, or calls itself");
+        }
+    }
+
+    /** The library's methods count too; a method that calls itself is found by its depth without an end. */
+    private static int depth(String name, Map<String, Set<String>> calls, int level) {
+        int most = level;
+        if (level <= 8) {
+            for (String called : calls.getOrDefault(name, Set.of())) {
+                most = Math.max(most, List.of("if", "for", "while", "switch").contains(called) ? level
+                    : depth(called, calls, level + 1));
+            }
+        }
+        return most;
     }
 
     public static void main(String[] args) throws IOException {
